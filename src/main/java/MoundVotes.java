@@ -29,8 +29,8 @@ public final class MoundVotes {
     private final Realm trial = new Realm();
     private final Realm[] images = new Realm[MOST_IMAGES];
     private final boolean[] kept = new boolean[MOST_IMAGES];
-    private final Tape tape = new Tape();
-    private final Reader reader = new Reader(tape, trial);
+    private final Reader reader = new Reader();
+    private final Tape tape = reader.tape;
     private final Players players = new Players();
     private final Witness witness = new Witness();
     private final Smallness smallness = new Smallness();
@@ -70,7 +70,7 @@ public final class MoundVotes {
         if (reader.met != 0) {
             return -10 - reader.metAt;
         }
-        realm.copyFrom(trial);
+        realm.copyFrom(reader.draft);
         witness.size = 0;
         for (int k = 0; k < MOST_IMAGES; k++) {
             kept[k] = false;
@@ -991,7 +991,7 @@ public final class MoundVotes {
         }
     }
 
-    /** Reads a tape into a realm; met and metAt are the first fault and its place. */
+    /** Reads its tape into its draft; met and metAt are the first fault and its place. */
     private static final class Reader {
         private static final int END = 0;
         private static final int NAME = 1;
@@ -1009,20 +1009,15 @@ public final class MoundVotes {
         private static final int TOO_MANY = 5;
         private static final int NO_SUCH_LORD = 6;
 
+        private final Tape tape = new Tape();
+        private final Realm draft = new Realm();
         private int met;
         private int metAt;
-        private final Tape tape;
-        private final Realm draft;
         private int start;
         private int next;
         private int token;
         private int value;
         private boolean priced;
-
-        Reader(Tape from, Realm into) {
-            tape = from;
-            draft = into;
-        }
 
         int tellAll() {
             draft.empty();
@@ -1120,9 +1115,9 @@ public final class MoundVotes {
         }
 
         /** Only the first fault counts: behind it nothing is read, and the draft is not used. */
-        private void refuse(int number, int place) {
+        private void refuse(int kindOfFault, int place) {
             if (met == 0) {
-                met = number;
+                met = kindOfFault;
                 metAt = place;
             }
         }

@@ -157,8 +157,8 @@ public final class ModelTest {
 
     private static String someText(Random random) {
         StringBuilder s = new StringBuilder();
-        int lords = random.nextInt(3) + 2;
-        int boroughs = random.nextInt(4) + 3;
+        int lords = random.nextInt(6) == 0 ? random.nextInt(3) : random.nextInt(3) + 2;
+        int boroughs = random.nextInt(6) == 0 ? random.nextInt(3) : random.nextInt(4) + 3;
         for (int i = 0; i < lords; i++) {
             s.append("lord ").append(random.nextInt(100)).append(random.nextInt(5) == 0 ? " ;" : ";");
         }
@@ -166,7 +166,7 @@ public final class ModelTest {
         for (int i = 0; i < boroughs; i++) {
             s.append(kinds[random.nextInt(4)]).append(' ').append(random.nextInt(9) + 1).append(' ')
                 .append(random.nextInt(4));
-            if (random.nextInt(3) != 0) {
+            if (lords > 0 && random.nextInt(3) != 0) {
                 s.append(' ').append(random.nextInt(lords));
             }
             s.append(';');
@@ -176,7 +176,7 @@ public final class ModelTest {
         }
         int changes = random.nextInt(3) == 0 ? random.nextInt(3) : 0;
         String signs = " ;0123456789alordpinmutewc@";
-        for (int i = 0; i < changes; i++) {
+        for (int i = 0; i < changes && s.length() > 0; i++) {
             int at = random.nextInt(s.length());
             switch (random.nextInt(3)) {
                 case 0: s.setCharAt(at, signs.charAt(random.nextInt(signs.length()))); break;

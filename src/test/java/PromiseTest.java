@@ -428,6 +428,8 @@ public final class PromiseTest {
         MoundVotes z = of("lord 0;plain 2 2;plain 1 1;plain 1 1;");
         due("as dear", z.cheap(0, 0), 9);
         due("the least of several", z.cheap(0, 1), 3);
+        due("all of two", of("lord 0;plain 1 1;plain 1 1;").cheap(0, 1), 3);
+        due("all of one", of("lord 0;twice 1 1;").cheap(0, 0), 6);
     }
 
     private static void able() {
@@ -507,6 +509,7 @@ public final class PromiseTest {
         MoundVotes y = of("plain 1 1;plain 1 1;");
         due("just half is not enough", y.bribe(1, 0), 3);
         due("who", y.bribe(1, 1), 1);
+        due("all of two", y.bribe(2, 1), 3);
     }
 
     private static void luck() {
@@ -632,6 +635,13 @@ public final class PromiseTest {
         due("one at the worst", y.ask(0, 1), 1);
         y.see(8, true);
         due("one is known", y.ask(0, 0), NONE);
+        MoundVotes z = of("lord 1;lord 1;plain 1 1 0;plain 1 1 1;plain 1 1;");
+        z.see(1, false);
+        due("both", z.ask(2, 0), 2);
+        z.see(2, false);
+        due("only nobody", z.owners(2), 16);
+        z.alter(2, 2, 0);
+        due("by none", z.ask(2, 0), NONE);
         due("no lords", of("plain 1 1;").ask(0, 0), NONE);
     }
 
@@ -650,6 +660,9 @@ public final class PromiseTest {
         due("n 61", x.drift(1, 61, 0), BAD);
         due("what 2", x.drift(1, 1, 2), BAD);
         due("what -1", x.drift(1, 1, -1), BAD);
+        MoundVotes y = of("lord 9;plain 2 1;");
+        due("one lord, one borough", y.drift(5, 60, 0), 1);
+        due("his guineas", y.drift(5, 60, 1), 3);
         due("no lords", of("plain 1 1;").drift(1, 1, 0), STATE);
         due("no boroughs", of("lord 1;").drift(1, 1, 0), STATE);
         due("BAD ahead of STATE", of("lord 1;").drift(1, 61, 0), BAD);
