@@ -129,6 +129,12 @@ public final class PromiseTest {
         due("lords", x.rule(0), 0);
         due("price", x.rule(2), 3);
         due("one blank", tell(x, " "), 0);
+        due("a full tape", tell(x, " ".repeat(153) + "lord 8;"), 1);
+        due("his guineas", x.lord(0, 0), 8);
+        due("a full tape without its end", tell(x, " ".repeat(154) + "lord 8"), -170);
+        due("fault", x.fault(), 2);
+        due("a full tape that ends in a name", tell(x, " ".repeat(156) + "lord"), -170);
+        due("a full tape of blanks", tell(x, " ".repeat(160)), 0);
     }
 
     private static void textFaults() {
@@ -794,6 +800,8 @@ public final class PromiseTest {
         due("owner 0", x.borough(0, 3), 1);
         due("owner 1", x.borough(1, 3), 0);
         due("from a cell on", withSheet(9, 0, 0).read(1, 1, 1, 1), 1);
+        x.sheet(3, 2, 2);
+        due("the last sheet", x.read(3, 2, 0, 1), 1);
         due("k 4", x.read(4, 1, 0, 1), BAD);
         due("k -1", x.read(-1, 1, 0, 1), BAD);
         due("lane 3", x.read(1, 3, 0, 1), BAD);
