@@ -460,9 +460,9 @@ public final class MoundVotes {
         Sheet page = sheets[k];
         trial.copyFrom(realm);
         int bought = 0;
-        int found = page.faultAs(lane);
+        int found = 0;
         for (int i = 0; i < n && found == 0; i++) {
-            found = page.faultOfPair(f + 2 * i);
+            found = page.faultOfPair(lane, f + 2 * i);
             if (found == 0) {
                 if (!trial.sell(page.cellAt(f + 2 * i), page.cellAt(f + 2 * i + 1))) {
                     return -20 - i;
@@ -948,14 +948,13 @@ public final class MoundVotes {
             return within(i, 0, size - 1) ? 0 : FOUND_INDEX;
         }
 
-        int faultOfPair(int i) {
+        /** The lane is looked at pair by pair: where no pair is asked for, another lane is no fault. */
+        int faultOfPair(int wanted, int i) {
+            if (size != NONE && lane != wanted) {
+                return FOUND_CAST;
+            }
             int first = faultAt(i);
             return first != 0 ? first : faultAt(i + 1);
-        }
-
-        /** As in Java, nothing can be taken as of any lane: it is refused when a cell is asked for. */
-        int faultAs(int wanted) {
-            return size == NONE || lane == wanted ? 0 : FOUND_CAST;
         }
 
         void put(int i, int v) {

@@ -875,13 +875,9 @@ public final class ModelTest {
             int bought = 0;
             int found = 0;
             try {
-                byte[] bytes = lane == 0 ? (byte[]) sheets[k] : null;
-                short[] shorts = lane == 1 ? (short[]) sheets[k] : null;
-                int[] ints = lane == 2 ? (int[]) sheets[k] : null;
                 for (int i = 0; i < n; i++) {
-                    int at = f + 2 * i;
-                    int l = lane == 0 ? bytes[at] : lane == 1 ? shorts[at] : ints[at];
-                    int b = lane == 0 ? bytes[at + 1] : lane == 1 ? shorts[at + 1] : ints[at + 1];
+                    int l = cellAs(lane, sheets[k], f + 2 * i);
+                    int b = cellAs(lane, sheets[k], f + 2 * i + 1);
                     if (town.buy(l, b) < 0) {
                         town = before;
                         return -20 - i;
@@ -897,6 +893,10 @@ public final class ModelTest {
             }
             torn = found;
             return bought;
+        }
+
+        private static int cellAs(int lane, Object sheet, int at) {
+            return lane == 0 ? ((byte[]) sheet)[at] : lane == 1 ? ((short[]) sheet)[at] : ((int[]) sheet)[at];
         }
 
         private int count(int what) {

@@ -856,6 +856,18 @@ public final class PromiseTest {
         x.lay(1, 99, 0);
         x.sheet(1, 1, -1);
         due("other calls change nothing", x.torn(), 3);
+        readNoTimes(x);
+    }
+
+    /** With n 0 nothing is read of a sheet, so there is nothing that the machine refuses. */
+    private static void readNoTimes(MoundVotes x) {
+        int[][] noTimes = {{1, 0, 0}, {1, 2, 99}, {2, 1, 0}, {1, 1, 99}, {1, 1, -1}};
+        for (int[] a : noTimes) {
+            x.read(1, 2, 0, 1);
+            due("a fault ahead", x.torn(), 3);
+            due("no times", x.read(a[0], a[1], a[2], 0), 0);
+            due("no times, no fault", x.torn(), 0);
+        }
     }
 
     private static void count() {
