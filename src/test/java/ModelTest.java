@@ -6,8 +6,7 @@ import java.util.regex.Matcher;
 import java.util.regex.Pattern;
 
 /** Long runs of calls by a seed: each answer is set against that of a plain model, written another way. */
-public final class ModelTest {
-    private static final int BAD = -1, STATE = -2, FULL = -3, NONE = -4;
+public final class ModelTest extends Checks {
     private static final int RUNS = 600;
 
     public static void main(String[] args) {
@@ -66,9 +65,11 @@ public final class ModelTest {
             }
             if (random.nextInt(12) == 0) {
                 int k = random.nextInt(4);
-                boolean fine = one(x, m, 33, new int[] {k, random.nextInt(3), random.nextInt(12)}, log, run, asked, taken);
+                int[] made = {k, random.nextInt(3), random.nextInt(12)};
+                boolean fine = one(x, m, 33, made, log, run, asked, taken);
                 for (int i = 0; i < 8; i++) {
-                    int v = random.nextInt(i % 2 == 0 ? 4 : 6) + (random.nextInt(4) == 0 ? 65536 * random.nextInt(3) : 0);
+                    int high = random.nextInt(4) == 0 ? 65536 * random.nextInt(3) : 0;
+                    int v = random.nextInt(i % 2 == 0 ? 4 : 6) + high;
                     fine &= one(x, m, 34, new int[] {k, i, v}, log, run, asked, taken);
                 }
                 if (!fine) {
@@ -100,7 +101,7 @@ public final class ModelTest {
     private static boolean one(MoundVotes x, Model m, int which, int[] a, StringBuilder log, int run, int[] asked,
             int[] taken) {
         String call = NAMES[which] + Arrays.toString(a);
-        long got = ask(x, which, a);
+        long got = made(x, NAMES[which], a);
         long want = m.call(which, a);
         asked[which]++;
         taken[which] += want >= 0 || want == NONE ? 1 : 0;
@@ -110,49 +111,6 @@ public final class ModelTest {
             System.out.println("run " + run + ": " + call + " answered " + got + ", the model " + want);
         }
         return got == want;
-    }
-
-    private static long ask(MoundVotes x, int which, int[] a) {
-        switch (which) {
-            case 0: return x.feed(a[0]);
-            case 1: return x.end(a[0]);
-            case 2: return x.text();
-            case 3: return x.fault();
-            case 4: return x.rule(a[0]);
-            case 5: return x.lord(a[0], a[1]);
-            case 6: return x.borough(a[0], a[1]);
-            case 7: return x.alter(a[0], a[1], a[2]);
-            case 8: return x.give(a[0], a[1]);
-            case 9: return x.purse(a[0], a[1]);
-            case 10: return x.price(a[0]);
-            case 11: return x.buy(a[0], a[1]);
-            case 12: return x.take(a[0]);
-            case 13: return x.carry(a[0], a[1]);
-            case 14: return x.swings(a[0]);
-            case 15: return x.share(a[0], a[1]);
-            case 16: return x.alone(a[0], a[1]);
-            case 17: return x.cheap(a[0], a[1]);
-            case 18: return x.able(a[0]);
-            case 19: return x.climb(a[0]);
-            case 20: return x.small(a[0]);
-            case 21: return x.line(a[0]);
-            case 22: return x.bribe(a[0], a[1]);
-            case 23: return x.luck(a[0], a[1], a[2]);
-            case 24: return x.mean(a[0], a[1], a[2]);
-            case 25: return x.see(a[0], a[1] % 2 == 0);
-            case 26: return x.forget(a[0]);
-            case 27: return x.owners(a[0]);
-            case 28: return x.seats(a[0]);
-            case 29: return x.ask(a[0], a[1]);
-            case 30: return x.drift(a[0], a[1], a[2]);
-            case 31: return x.keep(a[0]);
-            case 32: return x.back(a[0]);
-            case 33: return x.sheet(a[0], a[1], a[2]);
-            case 34: return x.lay(a[0], a[1], a[2]);
-            case 35: return x.read(a[0], a[1], a[2], a[3]);
-            case 36: return x.torn();
-            default: return x.count(a[0]);
-        }
     }
 
     private static String someText(Random random) {
@@ -381,7 +339,8 @@ public final class ModelTest {
                 case "mean": return mean(a[0], a[1], a[2]);
                 case "see": return see(a[0], a[1]);
                 case "forget": return forget(a[0]);
-                case "owners": return noBorough(a[0]) ? BAD : owners(a[0]).stream().mapToInt(l -> l < 0 ? 16 : 1 << l).sum();
+                case "owners": return noBorough(a[0]) ? BAD
+                    : owners(a[0]).stream().mapToInt(l -> l < 0 ? 16 : 1 << l).sum();
                 case "seats": return seats(a[0]);
                 case "ask": return ask(a[0], a[1]);
                 case "drift": return drift(a[0], a[1], a[2]);
@@ -427,7 +386,7 @@ public final class ModelTest {
             String name = null;
             int at = 0;
             while (m.find()) {
-                at = m.group(1) != null ? m.start(1) : m.group(2) != null ? m.start(2) : m.group(3) != null ? m.start(3) : m.start(4);
+                at = m.start() + m.group().lastIndexOf(' ') + 1;
                 if (m.group(4) != null || m.group(2) != null && m.group(2).length() > 2) {
                     return faulty(1, at);
                 }
@@ -447,7 +406,8 @@ public final class ModelTest {
                     continue;
                 }
                 int[] low = name.equals("lord") || name.equals("price") ? new int[] {0} : new int[] {1, 0, 0};
-                int[] high = name.equals("lord") ? new int[] {99} : name.equals("price") ? new int[] {9} : new int[] {9, 3, 3};
+                int[] high = name.equals("lord") ? new int[] {99} : name.equals("price") ? new int[] {9}
+                    : new int[] {9, 3, 3};
                 if (m.group(2) != null && numbers.size() < low.length) {
                     int v = Integer.parseInt(m.group(2));
                     if (v < low[numbers.size()] || v > high[numbers.size()]) {
@@ -497,7 +457,8 @@ public final class ModelTest {
                 free += town.boroughs.get(b).owner() < 0 ? 1 << b : 0;
                 none += town.boroughs.get(b).seats() == 0 ? 1 << b : 0;
             }
-            int[] answers = {town.lords.size(), town.boroughs.size(), town.price, town.seats(), town.guineas(), free, none};
+            int[] answers = {town.lords.size(), town.boroughs.size(), town.price, town.seats(), town.guineas(), free,
+                none};
             return what < 0 || what > 6 ? BAD : answers[what];
         }
 
@@ -726,7 +687,7 @@ public final class ModelTest {
             if (seen.size() == 6) {
                 return FULL;
             }
-            seen.add(new int[] {some, carried % 2 == 0 ? 1 : 0});
+            seen.add(new int[] {some, carried == 0 ? 0 : 1});
             return seen.size();
         }
 

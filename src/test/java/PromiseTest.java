@@ -1,12 +1,5 @@
 /** At least one test for each promise: ordinary inputs, the edges of the document, wrong inputs. */
-public final class PromiseTest {
-    private static final int BAD = -1, STATE = -2, FULL = -3, NONE = -4;
-    private static final String TOWN =
-        "lord 40;lord 12;lord 90;plain 4 2 0;mound 7 1 1;tent 2 3;twice 5 2 2;plain 1 1;mound 9 0 0;price 2;";
-    private static int wrong;
-    private static int checks;
-    private static int promise;
-
+public final class PromiseTest extends Checks {
     public static void main(String[] args) {
         newObject(); tape(); textThatIsTaken(); textFaults(); textRefusedKeepsAll(); rule(); lord(); borough();
         alter(); give(); purse(); price(); buy(); take();
@@ -15,41 +8,11 @@ public final class PromiseTest {
         luck(); mean();
         see(); forget(); owners(); seats(); ask();
         drift(); keepAndBack(); sheet(); lay(); read(); readRefused(); torn(); count();
-        System.out.println(checks + " checks, " + wrong + " wrong");
-        if (wrong != 0) {
-            System.exit(1);
-        }
-    }
-
-    private static void due(String what, long got, long want) {
-        checks++;
-        if (got != want) {
-            wrong++;
-            System.out.println("promise " + promise + ": " + what + " answered " + got + ", due is " + want);
-        }
-    }
-
-    private static int tell(MoundVotes x, String text) {
-        for (int i = 0; i < text.length(); i++) {
-            x.feed(text.charAt(i));
-        }
-        return x.text();
-    }
-
-    private static MoundVotes of(String text) {
-        MoundVotes x = new MoundVotes();
-        int lines = tell(x, text);
-        due("text of " + text, lines < 0 ? lines : 0, 0);
-        return x;
-    }
-
-    private static void fraction(String what, long top, long bottom, long wantTop, long wantBottom) {
-        due(what + " top", top, wantTop);
-        due(what + " bottom", bottom, wantBottom);
+        finish();
     }
 
     private static void newObject() {
-        promise = 1;
+        about(1, "a new object");
         MoundVotes x = new MoundVotes();
         int[] rules = {0, 0, 3, 0, 0, 0, 0};
         for (int what = 0; what < rules.length; what++) {
@@ -70,7 +33,7 @@ public final class PromiseTest {
     }
 
     private static void tape() {
-        promise = 2;
+        about(2, "feed");
         MoundVotes x = new MoundVotes();
         due("feed -1", x.feed(-1), BAD);
         due("feed 128", x.feed(128), BAD);
@@ -82,7 +45,7 @@ public final class PromiseTest {
         due("feed beyond", x.feed(' '), FULL);
         due("BAD ahead of FULL", x.feed(200), BAD);
         due("count", x.count(2), 160);
-        promise = 3;
+        about(3, "end");
         due("end -1", x.end(-1), BAD);
         due("end 161", x.end(161), BAD);
         due("end 160", x.end(160), 160);
@@ -101,7 +64,7 @@ public final class PromiseTest {
     }
 
     private static void textThatIsTaken() {
-        promise = 4;
+        about(4, "text");
         MoundVotes x = new MoundVotes();
         due("empty", x.text(), 0);
         due("lines", tell(x, TOWN), 10);
@@ -138,7 +101,7 @@ public final class PromiseTest {
     }
 
     private static void textFaults() {
-        promise = 5;
+        about(5, "fault");
         Object[][] faults = {
             {"@", 1, 0}, {"lord @", 1, 5}, {"lord 5@", 1, 6}, {"Lord 5;", 1, 0}, {"100;", 1, 0}, {"lord 5; \t", 1, 8},
             {"price 001;", 1, 6}, {"plain 9 3 000;", 1, 10}, {"lord -1;", 1, 5}, {"plain 1 1 @", 1, 10},
@@ -175,7 +138,7 @@ public final class PromiseTest {
     }
 
     private static void textRefusedKeepsAll() {
-        promise = 4;
+        about(4, "text");
         MoundVotes x = of(TOWN);
         x.see(1, false);
         x.keep(1);
@@ -189,7 +152,7 @@ public final class PromiseTest {
     }
 
     private static void rule() {
-        promise = 6;
+        about(6, "rule");
         MoundVotes x = of(TOWN);
         int[] want = {3, 6, 2, 9, 142, 20, 32};
         for (int what = 0; what < want.length; what++) {
@@ -200,7 +163,7 @@ public final class PromiseTest {
     }
 
     private static void lord() {
-        promise = 7;
+        about(7, "lord");
         MoundVotes x = of(TOWN);
         int[][] want = {{40, 33, 2}, {12, 2, 1}, {90, 8, 2}};
         for (int l = 0; l < 3; l++) {
@@ -216,7 +179,7 @@ public final class PromiseTest {
     }
 
     private static void borough() {
-        promise = 8;
+        about(8, "borough");
         MoundVotes x = of(TOWN);
         int[][] want = {{0, 4, 2, 0, 4, 8}, {1, 7, 1, 1, 4, 8}, {2, 2, 3, NONE, 2, 4}, {3, 5, 2, 2, 8, 16},
             {0, 1, 1, NONE, 1, 2}, {1, 9, 0, 0, 5, 10}};
@@ -239,7 +202,7 @@ public final class PromiseTest {
     }
 
     private static void alter() {
-        promise = 9;
+        about(9, "alter");
         MoundVotes x = of(TOWN);
         due("kind", x.alter(0, 0, 3), 0);
         due("kind was", x.alter(0, 0, 0), 3);
@@ -258,7 +221,7 @@ public final class PromiseTest {
     }
 
     private static void give() {
-        promise = 10;
+        about(10, "give");
         MoundVotes x = of(TOWN);
         due("to another", x.give(0, 1), 0);
         due("to himself", x.give(0, 1), 1);
@@ -274,7 +237,7 @@ public final class PromiseTest {
     }
 
     private static void purse() {
-        promise = 11;
+        about(11, "purse");
         MoundVotes x = of(TOWN);
         due("99", x.purse(1, 99), 12);
         due("0", x.purse(1, 0), 99);
@@ -286,7 +249,7 @@ public final class PromiseTest {
     }
 
     private static void price() {
-        promise = 12;
+        about(12, "price");
         MoundVotes x = new MoundVotes();
         due("at first", x.price(0), 3);
         due("9", x.price(9), 0);
@@ -296,7 +259,7 @@ public final class PromiseTest {
     }
 
     private static void buy() {
-        promise = 13;
+        about(13, "buy");
         MoundVotes x = of(TOWN);
         due("from nobody", x.buy(0, 4), 38);
         due("all he has", x.purse(1, 4), 12);
@@ -321,7 +284,7 @@ public final class PromiseTest {
     }
 
     private static void take() {
-        promise = 14;
+        about(14, "take");
         MoundVotes x = of(TOWN);
         due("-1", x.take(-1), BAD);
         due("7", x.take(7), BAD);
@@ -338,7 +301,7 @@ public final class PromiseTest {
     }
 
     private static void carry() {
-        promise = 15;
+        about(15, "carry");
         MoundVotes x = of(TOWN);
         int[] seats = {0, 2, 1, 3, 2, 4, 3, 5};
         for (int some = 0; some < 8; some++) {
@@ -354,7 +317,7 @@ public final class PromiseTest {
     }
 
     private static void swings() {
-        promise = 16;
+        about(16, "swings");
         MoundVotes x = of(TOWN);
         int[] want = {6, 2, 6};
         for (int l = 0; l < 3; l++) {
@@ -372,7 +335,7 @@ public final class PromiseTest {
     }
 
     private static void share() {
-        promise = 17;
+        about(17, "share");
         MoundVotes x = of(TOWN);
         int[][] want = {{7, 30}, {1, 15}, {7, 30}};
         for (int l = 0; l < 3; l++) {
@@ -395,7 +358,7 @@ public final class PromiseTest {
     }
 
     private static void alone() {
-        promise = 18;
+        about(18, "alone");
         MoundVotes x = of(TOWN);
         fraction("alone 2", x.alone(2, 0), x.alone(2, 1), 2, 5);
         fraction("alone 4", x.alone(4, 0), x.alone(4, 1), 1, 15);
@@ -410,7 +373,7 @@ public final class PromiseTest {
     }
 
     private static void cheap() {
-        promise = 19;
+        about(19, "cheap");
         MoundVotes x = of(TOWN);
         int[][] want = {{4, 4}, {6, 20}, {4, 4}};
         for (int l = 0; l < 3; l++) {
@@ -439,7 +402,7 @@ public final class PromiseTest {
     }
 
     private static void able() {
-        promise = 20;
+        about(20, "able");
         MoundVotes x = of(TOWN);
         int[] want = {30, 53, 55};
         for (int l = 0; l < 3; l++) {
@@ -455,7 +418,7 @@ public final class PromiseTest {
     }
 
     private static void climb() {
-        promise = 21;
+        about(21, "climb");
         MoundVotes x = of(TOWN);
         for (int l = 0; l < 3; l++) {
             due("climb " + l, x.climb(l), 2);
@@ -474,7 +437,7 @@ public final class PromiseTest {
     }
 
     private static void small() {
-        promise = 22;
+        about(22, "small");
         MoundVotes x = of(TOWN);
         int[] want = {4, 2, 0, 1, 3, NONE};
         for (int i = 0; i < 6; i++) {
@@ -486,7 +449,7 @@ public final class PromiseTest {
     }
 
     private static void line() {
-        promise = 23;
+        about(23, "line");
         MoundVotes x = of(TOWN);
         int[] want = {1, 1, 0, 1, NONE};
         for (int n = 1; n <= 5; n++) {
@@ -499,7 +462,7 @@ public final class PromiseTest {
     }
 
     private static void bribe() {
-        promise = 24;
+        about(24, "bribe");
         MoundVotes x = of(TOWN);
         // The first five have all 9 seats, and 5 are needed: borough 2 (3 seats for 4) and borough 0 (2 seats for 8).
         int[][] want = {{0, 0}, {0, 0}, {0, 0}, {4, 4}, {4, 4}, {12, 5}, {NONE, NONE}};
@@ -519,7 +482,7 @@ public final class PromiseTest {
     }
 
     private static void luck() {
-        promise = 25;
+        about(25, "luck");
         MoundVotes x = of("lord 1;lord 1;plain 1 2 0;plain 1 1 1;plain 1 1;");
         // Lord 0 wins if his two seats are there and not both others are: 1/2 * 3/4.
         fraction("half", x.luck(5, 1, 0), x.luck(5, 1, 1), 3, 8);
@@ -539,7 +502,7 @@ public final class PromiseTest {
     }
 
     private static void mean() {
-        promise = 26;
+        about(26, "mean");
         MoundVotes x = of("lord 1;lord 1;plain 1 2 0;plain 1 1 1;plain 1 1;");
         fraction("half", x.mean(5, 1, 0), x.mean(5, 1, 1), 1, 1);
         fraction("of both", x.mean(3, 3, 0), x.mean(3, 3, 1), 21, 10);
@@ -555,7 +518,7 @@ public final class PromiseTest {
     }
 
     private static void see() {
-        promise = 27;
+        about(27, "see");
         MoundVotes x = of(TOWN);
         due("8", x.see(8, true), BAD);
         due("-1", x.see(-1, true), BAD);
@@ -568,7 +531,7 @@ public final class PromiseTest {
     }
 
     private static void forget() {
-        promise = 28;
+        about(28, "forget");
         MoundVotes x = of(TOWN);
         x.see(5, true);
         x.see(0, true);
@@ -584,7 +547,7 @@ public final class PromiseTest {
     }
 
     private static void owners() {
-        promise = 29;
+        about(29, "owners");
         MoundVotes x = of(TOWN);
         due("nothing seen", x.owners(0), 23);
         x.see(5, true);
@@ -604,7 +567,7 @@ public final class PromiseTest {
     }
 
     private static void seats() {
-        promise = 30;
+        about(30, "seats");
         MoundVotes x = of(TOWN);
         due("nothing seen", x.seats(2), 15);
         x.see(5, true);
@@ -621,7 +584,7 @@ public final class PromiseTest {
     }
 
     private static void ask() {
-        promise = 31;
+        about(31, "ask");
         MoundVotes x = of(TOWN);
         x.see(5, true);
         due("whom", x.ask(2, 0), 1);
@@ -652,7 +615,7 @@ public final class PromiseTest {
     }
 
     private static void drift() {
-        promise = 32;
+        about(32, "drift");
         MoundVotes x = of("lord 40;lord 99;lord 82;plain 4 2 1;mound 7 1 1;tent 2 3;plain 1 1 0;price 2;");
         long[] seeds = {1, 7, -3, Integer.MAX_VALUE, Integer.MIN_VALUE};
         for (long seed : seeds) {
@@ -694,7 +657,7 @@ public final class PromiseTest {
     }
 
     private static void keepAndBack() {
-        promise = 33;
+        about(33, "keep");
         MoundVotes x = of(TOWN);
         due("first", x.keep(0), 0);
         due("second", x.keep(0), 1);
@@ -702,7 +665,7 @@ public final class PromiseTest {
         due("2", x.keep(2), BAD);
         due("-1", x.keep(-1), BAD);
         due("images", x.count(1), 2);
-        promise = 34;
+        about(34, "back");
         MoundVotes y = of(TOWN);
         due("none", y.back(0), STATE);
         y.keep(0);
@@ -734,7 +697,7 @@ public final class PromiseTest {
     }
 
     private static void sheet() {
-        promise = 35;
+        about(35, "sheet");
         MoundVotes x = new MoundVotes();
         due("40", x.sheet(0, 0, 40), 1);
         due("cells", x.count(3), 40);
@@ -760,7 +723,7 @@ public final class PromiseTest {
     }
 
     private static void lay() {
-        promise = 36;
+        about(36, "lay");
         MoundVotes x = of("lord 9;plain 1 1;plain 1 1;plain 1 1;");
         due("k 4", x.lay(4, 0, 0), BAD);
         due("k -1", x.lay(-1, 0, 0), BAD);
@@ -792,7 +755,7 @@ public final class PromiseTest {
     }
 
     private static void read() {
-        promise = 37;
+        about(37, "read");
         MoundVotes x = withSheet(0, 0, 0, 1, 1, 0);
         due("three", x.read(1, 1, 0, 3), 3);
         due("lord 0", x.lord(0, 0), 44);
@@ -818,7 +781,7 @@ public final class PromiseTest {
     }
 
     private static void readRefused() {
-        promise = 37;
+        about(37, "read");
         MoundVotes x = withSheet(0, 0, 0, 1, 0, 1, 0);
         due("the third is refused", x.read(1, 1, 0, 4), -22);
         due("then none was", x.rule(4), 100);
@@ -835,7 +798,7 @@ public final class PromiseTest {
     }
 
     private static void torn() {
-        promise = 38;
+        about(38, "torn");
         MoundVotes x = withSheet(0, 0, 0, 0, 1);
         x.read(2, 1, 0, 1);
         due("null", x.torn(), 1);
@@ -871,7 +834,7 @@ public final class PromiseTest {
     }
 
     private static void count() {
-        promise = 39;
+        about(39, "count");
         MoundVotes x = of(TOWN);
         x.see(1, true);
         x.see(1, false);
