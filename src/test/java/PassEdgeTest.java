@@ -10,7 +10,8 @@ public final class PassEdgeTest extends Checks {
         carryIsMoreThanHalf(); carryOfNoLords(); carryOfAllLords(); carryWithoutSeats(); carryBounds();
         swingsOfHalf(); swingsWithoutSeats(); swingsOfOnePlayer(); swingsOfManyPlayers(); swingsOfTheMost();
         swingsBounds();
-        shareOfNothing(); shareOfAll(); shareOfEqualOnes(); shareOfTheMost(); sharesMakeOne(); shareBounds();
+        shareOfNothing(); shareOfAll(); shareOfEqualOnes(); shareOfOneAmongMany(); shareOfTheMost(); sharesMakeOne();
+        shareBounds();
         aloneWithoutLords(); aloneOfTenPlayers(); aloneByOrder(); aloneOfAnOwner(); aloneBounds();
         fractionsInLowestTerms();
         cheapOfOneWhoCarries(); cheapFromHalf(); cheapOfOthersToo(); cheapWhateverGuineas(); cheapLeastSet();
@@ -168,6 +169,21 @@ public final class PassEdgeTest extends Checks {
         shared("one of six", six, 0, 1, 6);
     }
 
+    private static void shareOfOneAmongMany() {
+        about(17, "PLAYERS: 1 to 9 with a LORD who has all SEATS");
+        for (int lords = 1; lords <= 4; lords++) {
+            StringBuilder text = new StringBuilder(FOUR_LORDS.substring(0, 7 * lords) + "plain 1 3 0;");
+            for (int others = 0; others <= 5; others++) {
+                MoundVotes x = of(text.toString());
+                due("players", x.count(5), lords + others);
+                due("swings", x.swings(0), 1L << lords + others - 1);
+                shared("who has all", x, 0, 1, 1);
+                shared("the last lord", x, lords - 1, lords == 1 ? 1 : 0, 1);
+                text.append("plain 1 0;");
+            }
+        }
+    }
+
     private static void shareOfTheMost() {
         about(17, "that it is he with whom those that came WIN first");
         MoundVotes x = of(MOST);
@@ -226,6 +242,13 @@ public final class PassEdgeTest extends Checks {
         about(18, "SHARE of a BOROUGH of nobody: 4 LORDS, 6 BOROUGHS");
         for (int b = 0; b < 6; b++) {
             aloneIs("borough " + b, of(FOUR_LORDS + SIX_EQUAL), b, 1, 6);
+            MoundVotes x = of(FOUR_LORDS + SIX_EQUAL);
+            for (int other = 0; other < 6; other++) {
+                x.alter(other, 2, other == b ? 1 : 0);
+            }
+            due("players", x.count(5), 10);
+            aloneIs("the only one with a seat", x, b, 1, 1);
+            aloneIs("one without", x, (b + 1) % 6, 0, 1);
         }
     }
 

@@ -267,6 +267,7 @@ public final class SeenEdgeTest extends Checks {
         about(31, "fewer than now; NONE: none");
         asked("without seats", of("lord 1;lord 1;plain 1 0;plain 1 1;"), 0, NONE, NONE);
         asked("too few seats", of("lord 1;lord 1;plain 1 1;plain 1 3;"), 0, NONE, NONE);
+        asked("he carries without it", of("lord 1;plain 1 3 0;plain 1 1;"), 1, NONE, NONE);
         MoundVotes x = of(FOUR_SEATS);
         x.see(0, true);
         asked("none can be", x, 2, NONE, NONE);

@@ -12,7 +12,7 @@ public final class TextEdgeTest extends Checks {
         textOfNothing(); textOfBlanks(); textCountsItsLines(); placesFromTheFirstByteToTheLength(); tapeIsEmptyThen();
         faultIsOfTheLatestText(); otherCallsLeaveTheFault();
         eachByteAlone(); onlyBlanksPart(); numbersOfOneAndTwoFigures(); tokensAreAsLongAsMayBe();
-        eachTokenAtEachPlace();
+        otherNamesBeginNoLine(); eachTokenAtEachPlace();
         eachKindHasItsLine(); guineasInTheText(); housesInTheText(); seatsInTheText(); ownerInTheText(); ownerNotTold();
         priceInTheText(); theFirstFaultMet(); priceTwice(); fourLordsAndOneMore(); sixBoroughsAndOneMore();
         ownerWithoutALord(); behindAll();
@@ -371,6 +371,21 @@ public final class TextEdgeTest extends Checks {
         refused("1lord 1;", 2, 0);
         refused("lord 1;;", 2, 7);
         taken("price5;lord6;tent7 3;", 3);
+    }
+
+    private static void otherNamesBeginNoLine() {
+        about(5, "FAULT 2 a NAME that begins no line");
+        String[] lines = {"lord 1;", "price 1;", "plain 1 1;", "mound 1 1;", "tent 1 1;", "twice 1 1;"};
+        for (String line : lines) {
+            taken(line, 1);
+            for (int i = 0; i < line.indexOf(' '); i++) {
+                for (char c = 'a'; c <= 'z'; c++) {
+                    if (c != line.charAt(i)) {
+                        refused(line.substring(0, i) + c + line.substring(i + 1), 2, 0);
+                    }
+                }
+            }
+        }
     }
 
     /** What may stand behind each beginning: a name, a number, a stop, the end; all else is a fault at its place. */
