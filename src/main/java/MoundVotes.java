@@ -782,6 +782,8 @@ public final class MoundVotes {
         private static final int MOST_SUM = MOST_BOROUGHS * MOST_SEATS;
         private static final int WIDTH = MOST_SUM + 1;
         private static final int[] ORDERS = {1, 1, 2, 6, 24, 120, 720, 5040, 40320, 362880, 3628800};
+        /** WHOLE by ORDERS, written out so that nothing is divided. */
+        private static final int[] PARTS = {3628800, 3628800, 1814400, 604800, 151200, 30240, 5040, 720, 90, 10, 1};
 
         private final int[] weight = new int[MOST];
         private final int[] sets = new int[MOST * WIDTH];
@@ -829,7 +831,7 @@ public final class MoundVotes {
             for (int others = 0; others < size; others++) {
                 orders += decided(p, others) * ORDERS[others] * ORDERS[size - 1 - others];
             }
-            return orders * (WHOLE / ORDERS[size]);
+            return orders * PARTS[size];
         }
 
         /** How many sets of so many others lose without a player and win with him. */

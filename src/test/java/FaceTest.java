@@ -31,6 +31,9 @@ public final class FaceTest {
         members();
         insideClasses();
         source();
+        library();
+        methodsAreShort();
+        objectsAreMadeByConstructors();
         System.out.println(wrong == 0 ? "the face is as due" : wrong + " faults in the face");
         if (wrong != 0) {
             System.exit(1);
@@ -91,19 +94,70 @@ public final class FaceTest {
     private static void insideClasses() {
         Class<?>[] inside = MoundVotes.class.getDeclaredClasses();
         need(inside.length < 12, "at most twelve classes");
+        sizes(MoundVotes.class);
         for (Class<?> c : inside) {
             int m = c.getModifiers();
             need(Modifier.isStatic(m) && !Modifier.isPublic(m) && !Modifier.isProtected(m), c + " is not hidden");
-            int fields = 0;
-            for (Field f : c.getDeclaredFields()) {
-                boolean shared = Modifier.isStatic(f.getModifiers());
-                fields += shared ? 0 : 1;
-                need(!shared || Modifier.isFinal(f.getModifiers()), f + " is static and not final");
-            }
-            need(fields <= 20, c + " has too many fields");
+            sizes(c);
             for (Method method : c.getDeclaredMethods()) {
-                need(method.getParameterCount() <= 7, method + " has too many parameters");
+                for (String line : FACE) {
+                    need(!line.contains(" " + method.getName() + "("), method + " bears a public name");
+                }
             }
+        }
+    }
+
+    private static void sizes(Class<?> c) {
+        int fields = 0;
+        for (Field f : c.getDeclaredFields()) {
+            boolean shared = Modifier.isStatic(f.getModifiers());
+            fields += shared ? 0 : 1;
+            need(!shared || Modifier.isFinal(f.getModifiers()), f + " is static and not final");
+        }
+        need(fields <= 20, c + " has too many fields");
+        for (Method method : c.getDeclaredMethods()) {
+            need(method.getParameterCount() <= 7, method + " has too many parameters");
+        }
+    }
+
+    private static String bareSource() throws Exception {
+        String code = Files.readString(Path.of("src/main/java/MoundVotes.java"));
+        return code.replaceAll("(?s)/\\*.*?\\*/", " ").replaceAll("//[^\n]*", " ");
+    }
+
+    /** Of the library the class needs only what stands here; rule 4 has more. */
+    private static void library() throws Exception {
+        Set<String> fine = Set.of("Integer.bitCount", "Math.max", "Math.min", "Players.WHOLE", "Tape.MOST");
+        Matcher m = Pattern.compile("\\b[A-Z]\\w*[a-z]\\w*\\.\\w+").matcher(bareSource());
+        while (m.find()) {
+            need(fine.contains(m.group()), "the source has " + m.group());
+        }
+    }
+
+    /** Each method begins and ends with the same blanks ahead: four, or eight in a class inside. */
+    private static void methodsAreShort() throws Exception {
+        int methods = 0;
+        int began = 0;
+        String end = null;
+        String[] lines = bareSource().split("\n");
+        for (int i = 0; i < lines.length; i++) {
+            if (end == null && lines[i].matches("( {4}| {8})\\S.*\\) \\{")) {
+                methods++;
+                began = i;
+                end = lines[i].replaceAll("\\S.*", "}");
+            } else if (lines[i].equals(end)) {
+                need(i - began < 60, "too long: " + lines[began]);
+                end = null;
+            }
+        }
+        need(methods > 80, "only " + methods + " methods were found");
+    }
+
+    /** An object is made where a field begins, or in the constructor: nowhere else. */
+    private static void objectsAreMadeByConstructors() throws Exception {
+        String bare = bareSource().replaceAll("(?s)    public MoundVotes\\(\\) \\{.*?\n    }\n", "");
+        for (String line : bare.split("\n")) {
+            need(!line.matches(".*\\bnew\\b.*") || line.matches(" +private final .* = new .*;"), "made in" + line);
         }
     }
 
@@ -112,7 +166,7 @@ public final class FaceTest {
         for (int i = 0; i < code.length(); i++) {
             need(code.charAt(i) < 128, "a sign beyond 127 at " + i);
         }
-        String bare = code.replaceAll("(?s)/\\*.*?\\*/", " ").replaceAll("//[^\n]*", " ");
+        String bare = bareSource();
         for (String word : FORBIDDEN) {
             Matcher m = Pattern.compile("\\b" + word + "\\b").matcher(bare);
             need(!m.find(), "the source has " + word);
